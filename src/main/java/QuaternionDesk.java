@@ -1071,7 +1071,7 @@ public final class QuaternionDesk {
          * that divides q; all behind it, each by that prime, are (but for units) a chain of
          * what is left of q by it. Level: how many primes are taken away already.
          */
-        int chains(Quat q, int level) {
+        private int chains(Quat q, int level) {
             if (q.norm() <= 1) {
                 return 1;
             }
@@ -1093,7 +1093,7 @@ public final class QuaternionDesk {
 
     /** Rows of four whole numbers, none below 0, that nowhere rise. */
     private static final class Bases {
-        /** Far above need: no number up to 150 has more than 12. */
+        /** Above need: no number up to 150 has more than 11. */
         private static final int MOST_BASES = 40;
         private static final int MOST_ROOT = 12;
 
