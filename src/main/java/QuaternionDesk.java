@@ -457,7 +457,7 @@ public final class QuaternionDesk {
             return ZERO;
         }
         long made = calculate(way, t.at(i), second);
-        if (made < Integer.MIN_VALUE || made > Integer.MAX_VALUE) {
+        if (made != (int) made) {
             return OVER;
         }
         newest = (int) made;

@@ -166,6 +166,11 @@ public final class PromiseTest {
         dueFault("all1", 3);
         dueFault("allall", 0);
         dueFault("al", 0);
+        dueFault("bll", 0);
+        dueFault("alm", 0);
+        dueFault("but 0 1 1 1 1", 0);
+        dueFault("knit 0 1", 0);
+        dueFault("dopy 0 1", 0);
         dueFault("All", 0);
         dueFault("all.", 3);
         dueFault("all" + (char) 9, 3);
@@ -215,6 +220,7 @@ public final class PromiseTest {
         dueFault("copy 5 5", NONE);
         dueFault("copy 0 6", 7);
         dueFault("copy 9 0", 5);
+        dueFault("copy 6 0", 5);
         dueFault("copy", 4);
         dueFault("copyunit 0 0", 0);
         dueFault("all;".repeat(23) + "all", NONE);
@@ -306,6 +312,9 @@ public final class PromiseTest {
         due("slot -1", x.add(-1, -1), UNKNOWN);
         x.set(3, -24, -4, -2, -2);
         due("to 0", x.add(2, 3), 0);
+        x.set(3, 24, 4, 2, 0);
+        x.set(4, 0, 0, 0, 2);
+        due("to 150", x.add(3, 4), 150);
 
         promise(11);
         x.set(0, 2, 4, 0, 0);
@@ -696,10 +705,13 @@ public final class PromiseTest {
         due("tally -1", x.tally(-1, -1), UNKNOWN);
         due("all", x.count(4), 6);
         x.set(0, 4, 0, 0, 0);
+        x.load(2, 0, 0);
         x.load(2, 5, 0);
         due("anew", x.tally(2, 6), 6);
-        x.work(2, 5, 0, 5);
-        due("0 each", x.latest(), 0);
+        for (int i = 0; i < 6; i++) {
+            x.work(2, 0, i, i);
+            due("0 each", x.latest(), 0);
+        }
 
         promise(29);
         x.set(0, 4, 0, 0, 0);
@@ -764,6 +776,11 @@ public final class PromiseTest {
         promise = "promise 31";
         due("latest", x.latest(), 5);
         promise = "promise 30";
+        x.set(2, 0, 2, 0, 0);
+        x.load(0, 2, 2);
+        x.load(0, 0, 0);
+        x.work(0, 3, 0, 2);
+        due("by 1", x.latest(), 12);
         // -12 by 5 is cut towards 0
         x.load(0, 0, 0);
         x.work(0, 1, 3, 0);

@@ -119,8 +119,7 @@ public final class SourceTest {
             CHECK.isTrue("the source has no " + sign, !plain.contains(sign));
         }
         Matcher calls = Pattern.compile("\\b(Math|Integer|Long|Arrays|String)\\.(\\w+)").matcher(plain);
-        Set<String> allowed = Set.of("Math.max", "Math.min", "Math.abs", "Math.floorDiv", "Math.floorMod",
-                "Integer.MIN_VALUE", "Integer.MAX_VALUE");
+        Set<String> allowed = Set.of("Math.max", "Math.min", "Math.abs", "Math.floorDiv", "Math.floorMod");
         while (calls.find()) {
             CHECK.isTrue(calls.group() + " is in the library", allowed.contains(calls.group()));
         }
