@@ -4,7 +4,11 @@ import java.util.List;
 /** What is found of quaternions, over wide ranges, against the model's search in lists. */
 public final class ArithmeticTest {
     private static final Check CHECK = new Check("ArithmeticTest");
-    private static final QuaternionDesk DESK = new QuaternionDesk();
+    /** One object is used for at most 512 calls: some are kept free for the calls of one step. */
+    private static final int MOST_CALLS = 512, FREE = 160;
+    private static QuaternionDesk desk = new QuaternionDesk();
+    private static int calls = 0;
+    private static int mostCalls = 0;
 
     public static void main(String[] args) {
         allLists();
@@ -24,6 +28,7 @@ public final class ArithmeticTest {
                 ofTwo(some.get(i), divisors.get(i % divisors.size()));
             }
         }
+        CHECK.isTrue("no object was used for too many calls", mostCalls <= MOST_CALLS);
         CHECK.finish();
     }
 
@@ -31,37 +36,54 @@ public final class ArithmeticTest {
         return "(" + q[0] + ", " + q[1] + ", " + q[2] + ", " + q[3] + ")";
     }
 
+    /** The desk, for one call more. */
+    private static QuaternionDesk desk() {
+        calls++;
+        mostCalls = Math.max(mostCalls, calls);
+        return desk;
+    }
+
+    /** A new desk, if the calls of one step more might be too many for this one. */
+    private static void nextStep() {
+        if (calls > MOST_CALLS - FREE) {
+            desk = new QuaternionDesk();
+            calls = 0;
+        }
+    }
+
     private static void put(int slot, int[] q) {
-        CHECK.due("set " + told(q), DESK.set(slot, q[0], q[1], q[2], q[3]), Model.norm(q));
+        CHECK.due("set " + told(q), desk().set(slot, q[0], q[1], q[2], q[3]), Model.norm(q));
     }
 
     private static void allLists() {
         for (int n = 1; n <= 150; n++) {
             for (int side = 0; side <= 1; side++) {
                 List<int[]> heads = Model.heads(n, side);
-                CHECK.due("list " + n + " " + side, DESK.list(n, side, -1, 99), heads.size());
+                CHECK.due("list " + n + " " + side, desk().list(n, side, -1, 99), heads.size());
                 for (int k = 0; k < heads.size(); k++) {
+                    nextStep();
                     for (int i = 0; i < 4; i++) {
                         CHECK.due("list " + n + " " + side + " " + k + " " + i,
-                                DESK.list(n, side, k, i), heads.get(k)[i]);
+                                desk().list(n, side, k, i), heads.get(k)[i]);
                     }
                 }
-                CHECK.due("list " + n + " behind", DESK.list(n, side, heads.size(), 0), Model.NOT);
+                CHECK.due("list " + n + " behind", desk().list(n, side, heads.size(), 0), Model.NOT);
             }
         }
     }
 
     private static void allSquares() {
         for (int n = 0; n <= 150; n++) {
-            CHECK.due("squares " + n, DESK.squares(n, -2, 99), Model.squareRows(n));
+            CHECK.due("squares " + n, desk().squares(n, -2, 99), Model.squareRows(n));
             List<int[]> bases = Model.bases(n);
-            CHECK.due("bases " + n, DESK.squares(n, -1, 99), bases.size());
+            nextStep();
+            CHECK.due("bases " + n, desk().squares(n, -1, 99), bases.size());
             for (int k = 0; k < bases.size(); k++) {
                 for (int i = 0; i < 4; i++) {
-                    CHECK.due("base " + n + " " + k + " " + i, DESK.squares(n, k, i), bases.get(k)[i]);
+                    CHECK.due("base " + n + " " + k + " " + i, desk().squares(n, k, i), bases.get(k)[i]);
                 }
             }
-            CHECK.due("squares " + n + " behind", DESK.squares(n, bases.size(), 0), Model.NOT);
+            CHECK.due("squares " + n + " behind", desk().squares(n, bases.size(), 0), Model.NOT);
         }
     }
 
@@ -86,26 +108,27 @@ public final class ArithmeticTest {
     }
 
     private static void ofOne(int[] q) {
+        nextStep();
         put(0, q);
         List<int[]> factors = Model.factors(q);
-        CHECK.due("content " + told(q), DESK.of(0, 3), Model.content(q));
-        CHECK.due("factors " + told(q), DESK.of(0, 4), factors.size() - 1);
-        CHECK.due("chains " + told(q), DESK.of(0, 5), Model.chains(q));
+        CHECK.due("content " + told(q), desk().of(0, 3), Model.content(q));
+        CHECK.due("factors " + told(q), desk().of(0, 4), factors.size() - 1);
+        CHECK.due("chains " + told(q), desk().of(0, 5), Model.chains(q));
         for (int i = 0; i < 4; i++) {
             for (int k = 0; k < factors.size(); k++) {
-                CHECK.due("factor " + told(q) + " " + k, DESK.factor(0, k, i), factors.get(k)[i]);
+                CHECK.due("factor " + told(q) + " " + k, desk().factor(0, k, i), factors.get(k)[i]);
             }
-            CHECK.due("factor " + told(q) + " behind", DESK.factor(0, factors.size(), i), Model.NOT);
+            CHECK.due("factor " + told(q) + " behind", desk().factor(0, factors.size(), i), Model.NOT);
         }
         for (int side = 0; side <= 1; side++) {
             List<int[]> primes = Model.primes(q, side);
-            CHECK.due("primes " + told(q), DESK.prime(0, side, -1, 99), primes.size());
+            CHECK.due("primes " + told(q), desk().prime(0, side, -1, 99), primes.size());
             for (int k = 0; k < primes.size(); k++) {
                 for (int i = 0; i < 4; i++) {
-                    CHECK.due("prime " + told(q) + " " + k, DESK.prime(0, side, k, i), primes.get(k)[i]);
+                    CHECK.due("prime " + told(q) + " " + k, desk().prime(0, side, k, i), primes.get(k)[i]);
                 }
             }
-            CHECK.due("prime " + told(q) + " behind", DESK.prime(0, side, primes.size(), 0), Model.NOT);
+            CHECK.due("prime " + told(q) + " behind", desk().prime(0, side, primes.size(), 0), Model.NOT);
         }
     }
 
@@ -113,11 +136,12 @@ public final class ArithmeticTest {
         for (int n = 0; n <= 40; n++) {
             for (int[] q : Model.ofNorm(n)) {
                 for (int side = 0; side <= 1; side++) {
+                    nextStep();
                     put(0, q);
-                    DESK.turn(0, 1 + side);
+                    desk().turn(0, 1 + side);
                     int[] head = Model.head(q, side);
                     for (int i = 0; i < 4; i++) {
-                        CHECK.due("head " + told(q) + " " + side, DESK.number(0, i), head[i]);
+                        CHECK.due("head " + told(q) + " " + side, desk().number(0, i), head[i]);
                     }
                 }
             }
@@ -125,23 +149,24 @@ public final class ArithmeticTest {
     }
 
     private static void ofTwo(int[] q, int[] d) {
+        nextStep();
         put(0, q);
         put(1, d);
         for (int side = 0; side <= 1; side++) {
             String told = told(q) + " by " + told(d) + " on " + side;
             int[][] nearest = Model.nearest(q, d, side);
             for (int i = 0; i < 8; i++) {
-                CHECK.due("nearest " + told, DESK.nearest(0, 1, side, i), nearest[i / 4][i % 4]);
+                CHECK.due("nearest " + told, desk().nearest(0, 1, side, i), nearest[i / 4][i % 4]);
             }
-            CHECK.due("rest of " + told, DESK.nearest(0, 1, side, 8), Model.norm(nearest[1]));
-            CHECK.due("steps of " + told, DESK.steps(0, 1, side), Model.steps(q, d, side));
-            CHECK.due("divides " + told, DESK.divides(1, 0, side), Model.quotient(d, q, side) != null ? 1 : 0);
+            CHECK.due("rest of " + told, desk().nearest(0, 1, side, 8), Model.norm(nearest[1]));
+            CHECK.due("steps of " + told, desk().steps(0, 1, side), Model.steps(q, d, side));
+            CHECK.due("divides " + told, desk().divides(1, 0, side), Model.quotient(d, q, side) != null ? 1 : 0);
             int[] common = Model.common(q, d, side);
-            CHECK.due("common of " + told, DESK.common(0, 1, side), Model.norm(common));
+            CHECK.due("common of " + told, desk().common(0, 1, side), Model.norm(common));
             for (int i = 0; i < 4; i++) {
-                CHECK.due("common of " + told, DESK.number(0, i), common[i]);
+                CHECK.due("common of " + told, desk().number(0, i), common[i]);
             }
-            DESK.undo();
+            desk().undo();
         }
     }
 }

@@ -3,6 +3,7 @@ import java.util.Random;
 /** Long runs of calls, made from fixed seeds, on the class and on the model side by side. */
 public final class ModelRunTest {
     private static final int RUNS = 400, CALLS = 512;
+    private static final int MOST_LETTERS = 205, TEXT_CALLS = MOST_LETTERS + 4, CHANGE_CALLS = 25, COUNT_CALLS = 2;
     private static final Check CHECK = new Check("ModelRunTest");
     private static final String[] PIECES = {"all", "put", "unit", "copy", ";", ";", "-", " ", "  ",
         "0", "1", "2", "3", "5", "6", "9", "12", "23", "24", "25", "05", "005", "al", "putt", "A", "\t", "."};
@@ -11,6 +12,7 @@ public final class ModelRunTest {
     private final QuaternionDesk desk = new QuaternionDesk();
     private final Model model = new Model();
     private final String run;
+    private int left = CALLS;
 
     private ModelRunTest(int seed) {
         random = new Random(seed);
@@ -20,15 +22,16 @@ public final class ModelRunTest {
     public static void main(String[] args) {
         for (int seed = 0; seed < RUNS && CHECK.wrong() == 0; seed++) {
             ModelRunTest test = new ModelRunTest(seed);
-            int calls = 0;
-            while (calls < CALLS) {
-                calls += test.step();
+            while (test.left > 0) {
+                test.step();
             }
+            CHECK.due(test.run + "calls that are left", test.left, 0);
         }
         CHECK.finish();
     }
 
     private void due(String call, int got, int want) {
+        left--;
         CHECK.due(run + call, got, want);
     }
 
@@ -47,21 +50,21 @@ public final class ModelRunTest {
         return random.nextInt(many);
     }
 
-    private int step() {
+    /** One step, for which there are calls enough left. */
+    private void step() {
         int kind = random.nextInt(100);
-        if (kind < 6) {
-            return writeText();
+        if (kind < 6 && left >= TEXT_CALLS) {
+            writeText();
+        } else if (kind < 45 && left >= CHANGE_CALLS) {
+            change();
+        } else if (kind < 80 || left < COUNT_CALLS) {
+            find();
+        } else {
+            count();
         }
-        if (kind < 45) {
-            return change();
-        }
-        if (kind < 80) {
-            return find();
-        }
-        return count();
     }
 
-    private int change() {
+    private void change() {
         int s = near(6);
         int t = near(6);
         int side = near(2);
@@ -83,7 +86,9 @@ public final class ModelRunTest {
             case 10 -> due("keep " + side, desk.keep(side), model.keep(side));
             default -> due("back " + side, desk.back(side), model.back(side));
         }
-        return 1 + (random.nextInt(3) == 0 ? compareSlots() : 0);
+        if (random.nextInt(3) == 0) {
+            compareSlots();
+        }
     }
 
     private void setSome(int s) {
@@ -103,16 +108,15 @@ public final class ModelRunTest {
                 desk.set(s, q[0], q[1], q[2], q[3]), model.set(s, q[0], q[1], q[2], q[3]));
     }
 
-    private int compareSlots() {
+    private void compareSlots() {
         for (int s = 0; s < 6; s++) {
             for (int i = 0; i < 4; i++) {
                 due("number " + s + " " + i, desk.number(s, i), model.number(s, i));
             }
         }
-        return 24;
     }
 
-    private int find() {
+    private void find() {
         int s = near(6);
         int t = near(6);
         int side = near(2);
@@ -165,10 +169,9 @@ public final class ModelRunTest {
                 due("turned " + s + " " + axis + " " + part, desk.turned(s, axis, part), model.turned(s, axis, part));
             }
         }
-        return 1;
     }
 
-    private int count() {
+    private void count() {
         int tally = near(3);
         int i = near(4);
         int j = near(4);
@@ -201,12 +204,11 @@ public final class ModelRunTest {
                 due("count " + what, desk.count(what), model.count(what));
             }
         }
-        return 1;
     }
 
-    private int writeText() {
+    private void writeText() {
         String text = random.nextInt(3) == 0 ? pieces() : clauses();
-        for (int k = 0; k < text.length(); k++) {
+        for (int k = 0; k < Math.min(text.length(), MOST_LETTERS); k++) {
             int letter = text.charAt(k);
             due("write " + letter, desk.write(letter), model.write(letter));
         }
@@ -219,7 +221,6 @@ public final class ModelRunTest {
         if (random.nextInt(2) == 0) {
             due("erase", desk.erase(), model.erase());
         }
-        return text.length() + 3;
     }
 
     private String pieces() {

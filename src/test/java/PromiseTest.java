@@ -47,7 +47,8 @@ public final class PromiseTest {
     }
 
     private void dueFault(String text, int want) {
-        x.erase();
+        // a new object each time: one is used for at most 512 calls
+        x = new QuaternionDesk();
         write(text);
         due("fault of '" + text + "'", x.fault(), want);
         // looking for a fault changes nothing

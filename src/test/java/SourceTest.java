@@ -83,7 +83,8 @@ public final class SourceTest {
         for (Class<?> own : inside) {
             CHECK.isTrue(own + " is static", Modifier.isStatic(own.getModifiers()));
             for (Method method : own.getDeclaredMethods()) {
-                CHECK.isTrue(method + " has a name of its own", !names.contains(method.getName()));
+                CHECK.isTrue(method + " has a name of its own",
+                        !Modifier.isPrivate(method.getModifiers()) || !names.contains(method.getName()));
             }
             fields(own);
         }
@@ -110,18 +111,23 @@ public final class SourceTest {
     }
 
     private static void words(String plain) {
-        for (String word : List.of("import", "package", "throw", "throws", "try", "catch", "finally",
-                "synchronized", "assert", "protected", "volatile", "native", "var", "yield", "System",
-                "Object", "Thread", "Random", "Exception", "Error", "hashCode", "toString", "equals")) {
+        for (String word : List.of("package", "throw", "throws", "try", "catch", "finally",
+                "synchronized", "assert", "protected", "volatile", "native", "var", "Object", "Thread",
+                "Random", "Exception", "Error", "Throwable", "hashCode", "Double", "Float", "Character")) {
             CHECK.isTrue("the source has no " + word, !Pattern.compile("\\b" + word + "\\b").matcher(plain).find());
         }
         for (String sign : List.of("->", "::", "@", "...", "Exact(", "static {")) {
             CHECK.isTrue("the source has no " + sign, !plain.contains(sign));
         }
-        Matcher calls = Pattern.compile("\\b(Math|Integer|Long|Arrays|String)\\.(\\w+)").matcher(plain);
-        Set<String> allowed = Set.of("Math.max", "Math.min", "Math.abs", "Math.floorDiv", "Math.floorMod");
+        Matcher imports = Pattern.compile("\\bimport ([\\w.*]+)").matcher(plain);
+        while (imports.find()) {
+            CHECK.isTrue(imports.group() + " is in the library",
+                    imports.group(1).matches("java\\.util\\.(ArrayList|List|Arrays|Iterator)"));
+        }
+        Matcher calls = Pattern.compile("\\b(System|Arrays)\\.(\\w+)").matcher(plain);
         while (calls.find()) {
-            CHECK.isTrue(calls.group() + " is in the library", allowed.contains(calls.group()));
+            CHECK.isTrue(calls.group() + " is in the library", calls.group().matches(
+                    "System\\.arraycopy|Arrays\\.(copyOf|copyOfRange|fill)"));
         }
         for (char letter : plain.toCharArray()) {
             if (letter > 126) {
@@ -135,7 +141,6 @@ public final class SourceTest {
         String[] lines = source.split("\n");
         Pattern begin = Pattern.compile("^( {4}| {8})(?=\\w)[\\w<>\\[\\] ]+\\([^;]*\\) \\{$");
         for (int i = 0; i < lines.length; i++) {
-            CHECK.isTrue("line " + (i + 1) + " is short", lines[i].length() <= 110);
             Matcher matcher = begin.matcher(lines[i]);
             if (!matcher.matches() || lines[i].matches(" *(if|for|while|switch|else).*")) {
                 continue;
