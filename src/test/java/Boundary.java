@@ -94,20 +94,29 @@ abstract class Boundary {
 
     /** A call in a state answers this, and changes nothing: once, and once more. */
     final void lets(String call, int want, State state, Call made) {
+        lets(call, want, state, made, true);
+        lets(call, want, state, made, false);
+    }
+
+    private void lets(String call, int want, State state, Call made, boolean talliesFirst) {
         QuaternionDesk called = new QuaternionDesk();
         QuaternionDesk twin = new QuaternionDesk();
         state.make(called);
         state.make(twin);
         due(call, made.on(called), want);
         due(call + ", again", made.on(called), want);
-        alike(call, called, twin);
+        alike(call, called, twin, talliesFirst);
     }
 
     /** All that can be seen of two desks is the same. Both are used up by that. */
     final void alike(String call, QuaternionDesk one, QuaternionDesk other) {
+        alike(call, one, other, true);
+    }
+
+    private void alike(String call, QuaternionDesk one, QuaternionDesk other, boolean talliesFirst) {
         List<String> labels = new ArrayList<>();
-        List<Integer> got = Trace.of(one, labels);
-        List<Integer> want = Trace.of(other, new ArrayList<>());
+        List<Integer> got = Trace.of(one, talliesFirst, labels);
+        List<Integer> want = Trace.of(other, talliesFirst, new ArrayList<>());
         due(call + ", how much can be seen", got.size(), want.size());
         for (int k = 0; k < Math.min(got.size(), want.size()); k++) {
             due(call + ", then " + labels.get(k), got.get(k), want.get(k));
@@ -124,6 +133,23 @@ abstract class Boundary {
         x.keep(1);
         x.set(5, 0, 0, 10, 0);
         x.set(1, 6, 2, -2, 0);
+        busyBesideSlots(x);
+    }
+
+    /** The same, but one slot is set behind all else. */
+    static void busyWith(QuaternionDesk x, int slot, int a, int b, int c, int d) {
+        busy(x);
+        x.set(slot, a, b, c, d);
+    }
+
+    /** The same, but nothing is kept. */
+    static void busyUnkept(QuaternionDesk x) {
+        x.set(0, 3, 1, 1, 1);
+        x.set(1, 6, 2, -2, 0);
+        busyBesideSlots(x);
+    }
+
+    private static void busyBesideSlots(QuaternionDesk x) {
         x.tally(0, 4);
         x.load(0, 0, 2);
         x.load(0, 1, 0);

@@ -79,6 +79,16 @@ public final class FindBoundaryTest extends Boundary {
         }
     }
 
+    void promise18_eachNumberIsAskedFor() {
+        x.set(0, 6, 0, 0, 0);
+        int[][] rows = {{3, 3, 3, 3, 1}, {1, 3, 3, 3, 0}, {3, 1, 3, 3, 0}, {3, 3, 1, 3, 0}, {3, 3, 3, 1, 0},
+            {6, 0, 0, 12, 1}, {6, 0, 0, 8, 0}};
+        for (int[] row : rows) {
+            x.set(1, row[0], row[1], row[2], row[3]);
+            dueEach(row[4], x.divides(0, 1, 0), x.divides(0, 1, 1));
+        }
+    }
+
     void promise18_theSidesDiffer() {
         x.set(0, 3, 1, 1, 1);
         x.set(1, 5, 5, 3, 1);
@@ -172,6 +182,17 @@ public final class FindBoundaryTest extends Boundary {
         dueNearest(0, 1, 0, 2, 0, 0, 0, -2, 0, 0, 0, 1);
         x.set(0, -2, 0, 0, 0);
         dueNearest(0, 1, 0, 0, 0, 0, 0, -2, 0, 0, 0, 1);
+    }
+
+    void promise19_aHalfOneMayBeNearerThanAWholeOne() {
+        x.set(1, 8, 0, 0, 0);
+        x.set(0, 12, 2, 2, 2);
+        dueNearest(0, 1, 0, 3, 1, 1, 1, 0, -2, -2, -2, 3);
+        x.set(0, -12, -2, 2, 2);
+        dueNearest(0, 1, 1, -3, -1, 1, 1, 0, 2, -2, -2, 3);
+        x.set(0, 23, -7, 3, -3);
+        x.set(1, 2, 0, 0, 0);
+        dueNearest(0, 1, 1, 23, -7, 3, -3, 0, 0, 0, 0, 0);
     }
 
     void promise19_theRestIsAtMostHalfOfTheNorm() {

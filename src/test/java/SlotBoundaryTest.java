@@ -141,6 +141,18 @@ public final class SlotBoundaryTest extends Boundary {
         contents(rows);
     }
 
+    void promise07_contentAsksForEachNumber() {
+        int[][] rows = {{3, 3, 3, 3, 3}, {1, 3, 3, 3, 1}, {3, 1, 3, 3, 1}, {3, 3, 1, 3, 1}, {3, 3, 3, 1, 1},
+            {6, 6, 0, 0, 3}, {2, 6, 0, 0, 1}, {6, 2, 0, 0, 1}, {6, 0, 2, 0, 1}, {6, 0, 0, 2, 1}};
+        contents(rows);
+    }
+
+    void promise07_contentAsksWhetherAllAreEvenOrAllOddThen() {
+        int[][] rows = {{2, 2, 2, 2, 2}, {4, 2, 2, 2, 1}, {2, 4, 2, 2, 1}, {2, 2, 4, 2, 1}, {2, 2, 2, 4, 1},
+            {4, 4, 2, 2, 1}, {4, 2, 4, 2, 1}, {4, 2, 2, 4, 1}, {4, 4, 4, 4, 4}, {4, 4, 4, 8, 2}};
+        contents(rows);
+    }
+
     private void contents(int[][] rows) {
         for (int[] row : rows) {
             x.set(0, row[0], row[1], row[2], row[3]);
@@ -357,14 +369,17 @@ public final class SlotBoundaryTest extends Boundary {
 
     void promise10_aSumOfNorm151IsNot() {
         lets("all even", NOT, d -> {
+            busy(d);
             d.set(0, 22, 10, 4, 0);
             d.set(5, 0, 0, 0, 2);
         }, d -> d.add(0, 5));
         lets("all odd", NOT, d -> {
+            busy(d);
             d.set(0, 23, 5, 5, 3);
             d.set(5, 0, 0, 0, 2);
         }, d -> d.add(5, 0));
         lets("far above", NOT, d -> {
+            busy(d);
             d.set(1, 24, 4, 2, 2);
             d.set(2, 24, 4, 2, 2);
         }, d -> d.add(1, 2));
@@ -374,7 +389,7 @@ public final class SlotBoundaryTest extends Boundary {
         put(0, 12, 2, 0, 0, 37);
         due("to 148", x.add(0, 0), 148);
         dueSlot(0, 24, 4, 0, 0);
-        lets("to 152", NOT, d -> d.set(0, 12, 2, 2, 0), d -> d.add(0, 0));
+        lets("to 152", NOT, d -> busyWith(d, 0, 12, 2, 2, 0), d -> d.add(0, 0));
         due("0 and itself", x.add(3, 3), 0);
     }
 
@@ -425,10 +440,12 @@ public final class SlotBoundaryTest extends Boundary {
         for (int side = 0; side < 2; side++) {
             int where = side;
             lets("8 by 19", NOT, d -> {
+                busy(d);
                 d.set(0, 4, 4, 0, 0);
                 d.set(5, 8, 2, 2, 2);
             }, d -> d.times(0, 5, where));
             lets("150 by 2", NOT, d -> {
+                busy(d);
                 d.set(0, 24, 4, 2, 2);
                 d.set(5, 2, 0, 0, 2);
             }, d -> d.times(5, 0, where));
@@ -439,7 +456,7 @@ public final class SlotBoundaryTest extends Boundary {
         put(0, 6, 2, 2, 2, 12);
         due("12 by 12", x.times(0, 0, 1), 144);
         dueSlot(0, 12, 12, 12, 12);
-        lets("13 by 13", NOT, d -> d.set(0, 6, 4, 0, 0), d -> d.times(0, 0, 0));
+        lets("13 by 13", NOT, d -> busyWith(d, 0, 6, 4, 0, 0), d -> d.times(0, 0, 0));
     }
 
     void promise11_by0() {
@@ -552,6 +569,16 @@ public final class SlotBoundaryTest extends Boundary {
         dueSlot(0, 2, 2, 0, 0);
     }
 
+    void promise12_theHeadOfASmallOneBehindAGreatOne() {
+        x.set(0, 24, -4, 2, 2);
+        x.set(1, 2, 0, 0, 0);
+        for (int way = 1; way <= 2; way++) {
+            x.turn(0, 0);
+            due("way " + way, x.turn(1, way), 1);
+            dueSlot(1, 2, 0, 0, 0);
+        }
+    }
+
     void promise12_theSidesDiffer() {
         x.set(0, 1, 1, 3, 3);
         x.turn(0, 1);
@@ -640,6 +667,30 @@ public final class SlotBoundaryTest extends Boundary {
         dueSlot(0, 1, 1, -1, -1);
     }
 
+    void promise13_aHalfOneMayBeNearerThanAWholeOne() {
+        x.set(1, 8, 0, 0, 0);
+        int[][] rows = {{12, 2, 2, 2}, {2, 12, 2, 2}, {2, 2, 12, 2}, {2, 2, 2, 12}};
+        for (int[] row : rows) {
+            x.set(0, row[0], row[1], row[2], row[3]);
+            // by 4 it is 3 and three times 1/2, all by 2
+            due("nearest", x.divide(0, 1, 0, 0), 3);
+            dueSlot(0, row[0] / 4 + (row[0] == 2 ? 1 : 0), row[1] / 4 + (row[1] == 2 ? 1 : 0),
+                    row[2] / 4 + (row[2] == 2 ? 1 : 0), row[3] / 4 + (row[3] == 2 ? 1 : 0));
+            x.undo();
+            due("rest", x.divide(0, 1, 1, 1), 3);
+        }
+    }
+
+    void promise13_theGreatestHalfOneByAUnit() {
+        x.set(0, 23, -7, 3, -3);
+        x.set(1, -2, 0, 0, 0);
+        due("nearest", x.divide(0, 1, 0, 0), 149);
+        dueSlot(0, -23, 7, -3, 3);
+        due("back again", x.divide(0, 1, 0, 1), 149);
+        dueSlot(0, 23, -7, 3, -3);
+        due("rest", x.divide(0, 1, 1, 1), 0);
+    }
+
     void promise13_ways0And1OthersAreOutside() {
         outside("way", beside(2), (d, way) -> d.divide(0, 1, way, 0));
     }
@@ -673,8 +724,8 @@ public final class SlotBoundaryTest extends Boundary {
     // ---- common
 
     void promise14_of0And0IsNot() {
-        lets("left", NOT, d -> d.set(3, 0, 0, 0, 0), d -> d.common(3, 5, 0));
-        lets("right", NOT, d -> d.set(3, 0, 0, 0, 0), d -> d.common(3, 5, 1));
+        lets("left", NOT, d -> busyWith(d, 5, 0, 0, 0, 0), d -> d.common(3, 5, 0));
+        lets("right", NOT, d -> busyWith(d, 5, 0, 0, 0, 0), d -> d.common(3, 5, 1));
         lets("with itself", NOT, d -> d.common(3, 3, 0));
     }
 
@@ -743,8 +794,14 @@ public final class SlotBoundaryTest extends Boundary {
     void promise15_nothingToUndoIsNot() {
         lets("a new object", NOT, d -> d.erase(), QuaternionDesk::undo);
         lets("all undone", NOT, d -> {
-            d.set(0, 2, 0, 0, 0);
-            d.undo();
+            busy(d);
+            for (int k = 0; k < 6; k++) {
+                d.undo();
+            }
+        }, QuaternionDesk::undo);
+        lets("gone back", NOT, d -> {
+            busy(d);
+            d.back(1);
         }, QuaternionDesk::undo);
     }
 
@@ -928,16 +985,16 @@ public final class SlotBoundaryTest extends Boundary {
 
     void promise17_outsideIsAheadOfNot() {
         for (int k : beside(2)) {
-            lets("back " + k + ", nothing kept", OUTSIDE, d -> d.set(0, 2, 0, 0, 0), d -> d.back(k));
+            lets("back " + k + ", nothing kept", OUTSIDE, Boundary::busyUnkept, d -> d.back(k));
         }
     }
 
     void promise17_nothingKeptIsNot() {
         for (int k = 0; k < 2; k++) {
             int which = k;
-            lets("back " + k, NOT, d -> d.set(0, 2, 0, 0, 0), d -> d.back(which));
+            lets("back " + k, NOT, Boundary::busyUnkept, d -> d.back(which));
             lets("back " + k + ", the other one is kept", NOT, d -> {
-                d.set(0, 2, 0, 0, 0);
+                busyUnkept(d);
                 d.keep(1 - which);
                 d.set(0, 4, 0, 0, 0);
             }, d -> d.back(which));
@@ -948,12 +1005,9 @@ public final class SlotBoundaryTest extends Boundary {
         for (int k = 0; k < 2; k++) {
             int which = k;
             lets("back " + k, NOT, d -> {
-                d.set(0, 2, 0, 0, 0);
-                d.keep(0);
-                d.keep(1);
-                write(d, "unit 1 1");
+                busy(d);
                 d.desk();
-                d.set(0, 4, 0, 0, 0);
+                busyUnkept(d);
             }, d -> d.back(which));
         }
     }

@@ -154,6 +154,7 @@ public final class TallyBoundaryTest extends Boundary {
 
     /** Tally 0 becomes 0, 1, -1, the greatest int, the least int, 12. */
     private static void extremes(QuaternionDesk x) {
+        busy(x);
         x.set(0, 16, 16, 0, 0);
         x.set(1, 4, 0, 0, 0);
         x.set(2, 2, 0, 0, 0);

@@ -60,13 +60,14 @@ public final class TextBoundaryTest extends Boundary {
         due("behind erase()", x.write('u'), 1);
         fresh();
         fullText(x);
-        due("desk", x.desk(), 2);
+        due("desk", x.desk(), 3);
         due("behind desk()", x.write('u'), 1);
     }
 
     private static void fullText(QuaternionDesk x) {
-        x.set(2, 4, 0, 2, 0);
-        write(x, "put 3 5 1 1 1;copy 0 3" + " ".repeat(178));
+        busy(x);
+        // 32 letters are there
+        write(x, " ".repeat(168));
     }
 
     // ---- erase
@@ -606,6 +607,32 @@ public final class TextBoundaryTest extends Boundary {
         dueSlot(2, 0, 0, 0, 0);
         dueSlot(3, -2, 0, 0, 0);
         dueSlot(4, 6, 0, 0, 0);
+    }
+
+    void promise05_aTextIsDoneAsItIsWhateverStoodThereBefore() {
+        String[] clauses = {"all", "put 1 3 1 1 1", "unit 1 23", "copy 1 0"};
+        int[][] wants = {{0, 0, 0, 0}, {3, 1, 1, 1}, {-2, 0, 0, 0}, {4, 0, 0, 0}};
+        for (String first : clauses) {
+            for (int k = 0; k < clauses.length; k++) {
+                fresh();
+                desk(first, 1);
+                x.set(0, 4, 0, 0, 0);
+                x.set(1, 5, 1, 1, 1);
+                desk(clauses[k], 1);
+                dueSlot(1, wants[k][0], wants[k][1], wants[k][2], wants[k][3]);
+                dueSlot(0, k == 0 ? 0 : 4, 0, 0, 0);
+            }
+        }
+    }
+
+    void promise05_aLongerTextAheadLeavesNothingBehind() {
+        desk("put 0 3 1 1 1;put 1 3 1 1 1;unit 2 5", 3);
+        x.set(1, 4, 0, 0, 0);
+        x.set(2, 4, 0, 0, 0);
+        desk("copy 0 5", 1);
+        dueSlot(0, 0, 0, 0, 0);
+        dueSlot(1, 4, 0, 0, 0);
+        dueSlot(2, 4, 0, 0, 0);
     }
 
     void promise05_whatWasThereStays() {

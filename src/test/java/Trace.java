@@ -3,7 +3,8 @@ import java.util.List;
 
 /**
  * All that can be seen of a desk. What is changed by looking at it is looked at last: behind
- * that the desk is used up.
+ * that the desk is used up. To look at it takes calls that are refused, too: if one of these
+ * changed what is looked at later, that would be the same for all desks; so there are two orders.
  */
 final class Trace {
     private final QuaternionDesk x;
@@ -15,18 +16,23 @@ final class Trace {
         this.labels = labels;
     }
 
-    static List<Integer> of(QuaternionDesk x, List<String> labels) {
+    static List<Integer> of(QuaternionDesk x, boolean talliesFirst, List<String> labels) {
         Trace trace = new Trace(x, labels);
         trace.see("latest()", x.latest());
         for (int what = 0; what < 7; what++) {
             trace.see("count(" + what + ")", x.count(what));
         }
         trace.slots("");
-        trace.tallies();
+        if (talliesFirst) {
+            trace.tallies();
+        }
         trace.past();
         for (int k = 0; k < 2; k++) {
             trace.see("back(" + k + ")", x.back(k));
             trace.slots("back(" + k + "), ");
+        }
+        if (!talliesFirst) {
+            trace.tallies();
         }
         trace.text();
         return trace.seen;
