@@ -133,7 +133,7 @@ public final class QuaternionDesk {
             case 2: return q.isEven() ? 1 : 0;
             case 3: return q.content();
             case 4: return primeFactors(q.norm());
-            default: return parting.chains(q, 0);
+            default: return Parting.chains(parting, q, 0);
         }
     }
 
@@ -1071,21 +1071,22 @@ public final class QuaternionDesk {
          * that divides q; all behind it, each by that prime, are (but for units) a chain of
          * what is left of q by it. Level: how many primes are taken away already.
          */
-        private int chains(Quat q, int level) {
+        private static int chains(Parting parting, Quat q, int level) {
             if (q.norm() <= 1) {
                 return 1;
             }
             if (level < 0 || level >= MOST_FACTORS) {
                 return 0;
             }
-            Rows rows = primes[level].rows;
-            primes[level].gather(q, LEFT);
+            Rows rows = parting.primes[level].rows;
+            Quat next = parting.left[level];
+            parting.primes[level].gather(q, LEFT);
             int sum = 0;
             for (int k = 0; k < rows.size(); k++) {
-                rows.putRow(taken, k);
-                division.perform(q, taken, LEFT);
-                left[level].copyFrom(division.quotient);
-                sum += chains(left[level], level + 1);
+                rows.putRow(parting.taken, k);
+                parting.division.perform(q, parting.taken, LEFT);
+                next.copyFrom(parting.division.quotient);
+                sum += chains(parting, next, level + 1);
             }
             return sum;
         }
